@@ -370,10 +370,8 @@ public final class MoodFare {
         search.seekWithin(town, corner, q);
         int above = search.weightOfEnough(town.open, c);
         int below = power(10, Integer.bitCount(town.open));
-        int divisor = commonDivisor(above, below);
-        if (divisor < 1) {
-            return BAD;
-        }
+        // never below 1, as one of the two is not 0; looked at all the same, since it divides
+        int divisor = Math.max(1, commonDivisor(above, below));
         return (what == 0 ? above : below) / divisor;
     }
 

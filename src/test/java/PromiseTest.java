@@ -53,6 +53,7 @@ public final class PromiseTest {
         would();
         reach();
         cheapest();
+        eightStepsAtMost();
         dearest();
         moods();
         gets();
@@ -95,7 +96,7 @@ public final class PromiseTest {
         due(2, "BAD ahead of SIZE", x.row(0, 3, -1), BAD);
         due(2, "refused: all stays", x.drop(0), 0);
         x.row(1, 0, 1);
-        x.set(1, 0, 3);
+        x.set(1, 0, 1);
         due(2, "in its place", x.row(1, 1, 2), 2);
         due(2, "items are 0 again: street 0", x.share(1, 0, 1, 0), 4);
         due(2, "lane is another", x.set(1, 1, 300), 300);
@@ -496,6 +497,20 @@ public final class PromiseTest {
         due(18, "how much", w.cheapest(3, -1), 9);
     }
 
+    /** A ring of five corners, from which haste is free only on STEPS that are even ahead. */
+    private static void eightStepsAtMost() {
+        MoodFare x = of("t9,0;g0,0;g0,0;g0,0;g0,0;g0,0;h9,0;x0,1;x1,2;x2,3;x3,4;x4,0;x2,5;");
+        for (int s = 0; s < 4; s++) x.ride(s);
+        due(18, "round the ring there are 9 STEPS", x.cheapest(5, -1), 81);
+        due(18, "so straight", x.cheapest(5, -2), 4);
+        due(25, "round the ring there are 9 STEPS", x.shut(5, 0, 0, 0), 0);
+        x.ride(4);
+        due(18, "round the ring there are 8 STEPS", x.cheapest(5, -1), 0);
+        due(18, "so round it", x.cheapest(5, -2), 8);
+        due(18, "the last", x.cheapest(5, 7), 5);
+        due(25, "round the ring there are 8 STEPS", x.shut(5, 0, 0, 0), 1);
+    }
+
     private static void dearest() {
         MoodFare x = of(PLAIN);
         due(19, "how much", x.dearest(4, -1), 49);
@@ -685,6 +700,7 @@ public final class PromiseTest {
         x.ride(2);
         due(26, "the METER, not what it grows by", x.drawn(1, 1, 0), 5);
         due(26, "nothing changes", x.count(3), 1);
+        due(26, "the greatest seed, the only way", x.drawn(1, 999999, 1), 0);
         due(26, "n below", x.drawn(-1, 1, 0), BAD);
         due(26, "n above", x.drawn(61, 1, 0), BAD);
         due(26, "seed below", x.drawn(1, 0, 0), BAD);
