@@ -1,36 +1,5 @@
 /** For each promise: ordinary inputs, the edges that the document names, wrong inputs. Answers worked out by hand. */
-public final class PromiseTest {
-    private static final int NONE = -1000000, BAD = -1000001, STATE = -1000002, FULL = -1000003;
-    private static final int NULL = -1000011, PLACE = -1000012, KIND = -1000013, SIZE = -1000014, STORE = -1000015;
-    /** Corners: 0 joy, 1 love, 2 haste, 3 grief, 4 ruin. */
-    private static final String PLAIN =
-        "t3,2;j1,2;l3,0;h4,1;g5,3;r2,4;x0,1;x1,2;x2,0;x0,3;x3,4;x4,0;x2,4;";
-    private static int wrong = 0, checks = 0;
-
-    private static void due(int promise, String what, int got, int want) {
-        checks++;
-        if (got != want) {
-            wrong++;
-            System.out.println("promise " + promise + ": " + what + " answered " + got + ", due is " + want);
-        }
-    }
-
-    private static int read(MoodFare x, String text) {
-        for (int i = 0; i < text.length(); i++) x.feed(text.charAt(i));
-        return x.town();
-    }
-
-    private static MoodFare of(String text) {
-        MoodFare x = new MoodFare();
-        read(x, text);
-        return x;
-    }
-
-    private static void lay(MoodFare x, int row, int... items) {
-        x.row(row, 2, items.length);
-        for (int i = 0; i < items.length; i++) x.set(row, i, items[i]);
-    }
-
+public final class PromiseTest extends Checks {
     public static void main(String[] args) {
         aNewObject();
         row();
@@ -67,8 +36,7 @@ public final class PromiseTest {
         asks();
         count();
         status();
-        System.out.println(checks + " checks, " + wrong + " wrong");
-        if (wrong != 0) System.exit(1);
+        end();
     }
 
     private static void aNewObject() {
