@@ -1,3 +1,5 @@
+import java.lang.reflect.Method;
+
 /** What the tests of the project share: wrong answers are told and counted, towns come from texts, ROWS from numbers. */
 class Checks {
     static final int NONE = -1000000, BAD = -1000001, STATE = -1000002, FULL = -1000003;
@@ -74,5 +76,31 @@ class Checks {
         StringBuilder b = new StringBuilder();
         for (int what : whats) b.append(x.count(what)).append(' ');
         return b.toString().trim();
+    }
+
+    /** A call by its name; what it throws is told, and answered by a number that no call answers. */
+    static int call(MoodFare x, String name, int... args) {
+        try {
+            for (Method method : MoodFare.class.getMethods()) {
+                if (!method.getName().equals(name) || method.getParameterCount() != args.length) continue;
+                Object[] boxed = new Object[args.length];
+                for (int i = 0; i < args.length; i++) boxed[i] = args[i];
+                return (Integer) method.invoke(x, boxed);
+            }
+        } catch (ReflectiveOperationException thrown) {
+            System.out.println(name + " threw " + thrown.getCause());
+            return 1234567;
+        }
+        throw new IllegalArgumentException("no call " + name);
+    }
+
+    static String told(String name, int... args) {
+        StringBuilder b = new StringBuilder(name).append('(');
+        for (int i = 0; i < args.length; i++) b.append(i == 0 ? "" : ", ").append(args[i]);
+        return b.append(')').toString();
+    }
+
+    static int[] numbers(int... args) {
+        return args;
     }
 }

@@ -1,4 +1,3 @@
-import java.lang.reflect.Method;
 import java.util.function.Supplier;
 
 /**
@@ -111,27 +110,6 @@ public final class RefusalTest extends Checks {
         return b.toString();
     }
 
-    private static int call(MoodFare x, String name, int... args) {
-        try {
-            for (Method method : MoodFare.class.getMethods()) {
-                if (!method.getName().equals(name) || method.getParameterCount() != args.length) continue;
-                Object[] boxed = new Object[args.length];
-                for (int i = 0; i < args.length; i++) boxed[i] = args[i];
-                return (Integer) method.invoke(x, boxed);
-            }
-        } catch (ReflectiveOperationException thrown) {
-            System.out.println(name + " threw " + thrown.getCause());
-            return 1234567;
-        }
-        throw new IllegalArgumentException("no call " + name);
-    }
-
-    private static String told(String name, int... args) {
-        StringBuilder b = new StringBuilder(name).append('(');
-        for (int i = 0; i < args.length; i++) b.append(i == 0 ? "" : ", ").append(args[i]);
-        return b.append(')').toString();
-    }
-
     /** The call is answered so, and leaves all as it was; status() is another by a finding alone. */
     private static void leaves(Supplier<MoodFare> made, int want, int status, String name, int... args) {
         String what = told(name, args);
@@ -169,10 +147,6 @@ public final class RefusalTest extends Checks {
 
     private static void bounds(String name, int[] args, int place, int least, int most) {
         bounds(name, args, place, least, most, BAD, BAD);
-    }
-
-    private static int[] numbers(int... args) {
-        return args;
     }
 
     // ---- bounds
